@@ -241,6 +241,12 @@ public final class EdgesAheadTest {
             x = Check.county("ca40k8s1;ca" + age + "k9;e");
             plan("before there is one, the lowest of like age, " + age, x, 10, age >= 40 ? 8 : NONE, age >= 40 ? 10 : 0, age >= 40 ? 1 : 0);
         }
+        x = Check.county("ca40k1s1;ca30k3;ca50k9;ea60k9;ea70k3f2");
+        plan("the other elder tries, and a younger one passes", x, 5, NONE, 0, 0);
+        x = Check.county("ca40k1s1;ca50k3;ca30k2;ea60k9;ea70k3");
+        plan("the other elder tries, and an older one passes", x, 5, 12, 4, 2);
+        x = Check.county("ca40k1s1;ca50k3;ca30k2;ea60k9;ea70k3f3");
+        plan("the other elder tries and forgets, then a younger one passes", x, 5, 12, 1, 2);
         x = Check.county("ca50k9;ca40k9w1s3;e");
         due("24: of like use none is the first row", x.plan(0, 2, 0), NONE);
         due("24: another child's row", x.plan(1, 5, 0), 1);
@@ -270,6 +276,9 @@ public final class EdgesAheadTest {
         }
         x.keep(0, 8, true);
         plan("its lesson ended", x, 24, 0, 24, 1);
+        x = Check.county("ca30k8s3;e");
+        plan("a row, then none", x, 3, 8, 1, 1);
+        plan("none, behind a row", x, 2, NONE, 0, 0);
     }
 
     // ---- promise 25
@@ -600,9 +609,11 @@ public final class EdgesAheadTest {
         for (int v = 0; v <= 99; v++) {
             due("31: without a law " + v, x.spans(0, v), v % 10 == 0 ? 1 << v / 10 : 0);
         }
-        x.law(Check.tell(x, LAW, "y:w"));
-        due("31: w is 0", x.spans(0, 0), 1023);
-        due("31: w is not 1", x.spans(0, 1), 0);
+        x.law(Check.tell(x, LAW, "y:w*3+5"));
+        due("31: w of the child as it is", kid(x, 0, 11), 8);
+        due("31: w 0 of a ruler", x.spans(0, 5), 1022);
+        due("31: w is not 1", x.spans(0, 8), 0);
+        due("31: a count of 0 pays nothing", x.spans(0, 0), 1);
         x.law(Check.tell(x, LAW, "y:k"));
         for (int tens = 0; tens <= 9; tens++) {
             due("31: k as many", x.spans(0, tens), 1 << tens);
@@ -713,6 +724,8 @@ public final class EdgesAheadTest {
             }
         }
         due("33: no examiner", Check.county("ck9y3;ek0").threes(), NONE);
+        due("33: the first child", Check.county("ck7y3;ck7;e").threes(), 1);
+        due("33: eight children", Check.county("ck9;ck9;ck9;ck9;ck9;ck9;ck9;ck7y3;e").threes(), 128);
         due("33: none", Check.county("ck9y3;e").threes(), 0);
         due("33: no county", new CountRule().threes(), NONE);
     }
@@ -841,6 +854,8 @@ public final class EdgesAheadTest {
         due("39: it does not pass", Check.county("ck8;e").spoil(0), NONE);
         due("39: no examiner", Check.county("ck9;ek0").spoil(0), NONE);
         due("39: no county", new CountRule().spoil(0), NONE);
+        due("39: before another elder", Check.county("ck3;ea9;ea10k3").spoil(0), 0);
+        due("39: not before another elder", Check.county("ck3;ea9k3;ea10").spoil(0), NONE);
         due("39: another one", Check.county("ck8;ck9;e").spoil(1), 0);
     }
 
@@ -868,7 +883,11 @@ public final class EdgesAheadTest {
                 }
             }
         }
-        CountRule x = Check.county("ck3s3w1;ca20k9;ek4f2");
+        CountRule x = Check.county("ck0s4;ek4");
+        x.teach(0, 0);
+        x.months(1);
+        due("40: a lesson of ten 0", x.soon(0), 3 + 3 * 4);
+        x = Check.county("ck3s3w1;ca20k9;ek4f2");
         x.teach(0, 1);
         due("40: as the examiner knows now", x.soon(0), 6);
         x.months(2);
@@ -910,6 +929,7 @@ public final class EdgesAheadTest {
     private static void richestIsFirst() {
         CountRule x = Check.county("ca70k3;ek2");
         Check.tell(x, LAW, "y:5");
+        Check.tell(x, LAW, "y:6");
         Check.tell(x, LAW, "y:c");
         Check.tell(x, LAW, "y:9999");
         x.law(0);

@@ -414,6 +414,7 @@ public final class EdgesOfMonthsTest {
 
     // ---- the log
 
+    /** The child pays the month's number, up to its count of 90, until it grows out at 99. */
     private static CountRule payingByMonth(int months) {
         CountRule x = Check.county("ca0k9;e;rg99");
         x.law(Check.tell(x, LAW, "y:m"));
@@ -423,16 +424,29 @@ public final class EdgesOfMonthsTest {
         return x;
     }
 
+    private static int paidIn(int month) {
+        return month < 99 ? Math.min(90, month) : 0;
+    }
+
+    private static void logged(String why, CountRule x, int months) {
+        int length = Math.min(60, months);
+        due(why + ": how long the log is behind " + months, x.count(10), length);
+        for (int i = 0; i < length; i++) {
+            int month = months - i;
+            due(why + ": paid in month " + month + " of " + months, x.log(i, 2), paidIn(month));
+            due(why + ": ruler in month " + month + " of " + months, x.log(i, 0), month < 99 ? 0 : NONE);
+            due(why + ": examiner in month " + month + " of " + months, x.log(i, 1), 0);
+        }
+        for (int what = 0; what < 3; what++) {
+            due(why + ": none older than " + length, x.log(length, what), HIDDEN);
+        }
+    }
+
     private static void theLogHasSixty() {
-        for (int months : new int[] {0, 1, 2, 58, 59, 60, 61, 62, 90}) {
+        for (int months : new int[] {0, 1, 2, 58, 59, 60, 61, 62, 90, 98, 99, 100, 101, 102, 120, 160, 200, 230}) {
             CountRule x = payingByMonth(months);
+            logged("21", x, months);
             int length = Math.min(60, months);
-            due("48: how long the log is behind " + months, x.count(10), length);
-            for (int i = 0; i < length; i++) {
-                due("21: paid " + i + " of " + months, x.log(i, 2), months - i);
-                due("21: ruler " + i + " of " + months, x.log(i, 0), 0);
-                due("21: examiner " + i + " of " + months, x.log(i, 1), 0);
-            }
             for (int i : new int[] {Integer.MIN_VALUE, -1, length, length + 1, 60, 61, 100, Integer.MAX_VALUE}) {
                 for (int what = 0; what < 3; what++) {
                     due("21: no month " + i + " of " + months, x.log(i, what), HIDDEN);
@@ -446,26 +460,20 @@ public final class EdgesOfMonthsTest {
     }
 
     private static void theLogIsUndone() {
-        CountRule x = payingByMonth(90);
-        for (int undone = 1; undone <= 40; undone++) {
-            due("20: undone " + undone, x.undo(), 40 - undone);
-            int month = 90 - undone;
-            due("20: the log's length", x.count(10), Math.min(60, month));
-            due("20: the latest", x.log(0, 2), month);
-            due("20: the oldest", x.log(Math.min(60, month) - 1, 2), Math.max(1, month - 59));
-            due("20: none older", x.log(Math.min(60, month), 2), HIDDEN);
-        }
-        due("20: forty at most", x.undo(), NONE);
-        due("20: the month", x.count(5), 50);
-        x.months(40);
-        for (int i = 0; i < 60; i++) {
-            due("20: the same months again, " + i, x.log(i, 2), 90 - i);
-        }
-        for (int undone = 1; undone <= 40; undone++) {
-            x.undo();
-        }
-        for (int i = 0; i < 50; i++) {
-            due("20: undone again, " + i, x.log(i, 2), 50 - i);
+        for (int months : new int[] {41, 60, 61, 90, 100, 101, 130, 200, 230}) {
+            CountRule x = payingByMonth(months);
+            for (int undone = 1; undone <= 40; undone++) {
+                due("20: undone " + undone, x.undo(), 40 - undone);
+                logged("20: undone " + undone, x, months - undone);
+            }
+            due("20: forty at most", x.undo(), NONE);
+            due("20: the month", x.count(5), months - 40);
+            x.months(40);
+            logged("20: the same months again", x, months);
+            for (int undone = 1; undone <= 40; undone++) {
+                x.undo();
+            }
+            logged("20: undone again", x, months - 40);
         }
     }
 

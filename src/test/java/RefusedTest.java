@@ -402,7 +402,7 @@ public final class RefusedTest {
     // ---- promises 46 to 48
 
     private static void imagesComeBack() {
-        for (int months : new int[] {0, 1, 39, 40, 41, 59, 60, 61, 90}) {
+        for (int months : new int[] {0, 1, 39, 40, 41, 59, 60, 61, 90, 96, 97, 98, 150, 200}) {
             CountRule x = livedTown();
             x.end(0);
             for (int left = months; left > 0; left -= 30) {
