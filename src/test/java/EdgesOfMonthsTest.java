@@ -19,6 +19,7 @@ public final class EdgesOfMonthsTest {
         whatIsAskedOfWhom();
         whatIsAskedAboutWrongTens();
         whoIsThere();
+        eightChildrenAndFourElders();
         whoTries();
         taxAndItsLetters();
         eldersForget();
@@ -185,6 +186,53 @@ public final class EdgesOfMonthsTest {
             due("8: what " + what, x.rule(what) >= 1, true);
             due("8: no county", new CountRule().rule(what), NONE);
             due("7: no county", new CountRule().elder(0, what), NONE);
+        }
+    }
+
+    /** As many as there can be, each unlike the others, so that nothing of one is taken for another's. */
+    private static void eightChildrenAndFourElders() {
+        StringBuilder town = new StringBuilder("rg80u8p3");
+        for (int i = 0; i < 8; i++) {
+            town.append(";ca").append(40 - i).append("k").append(i + 1).append("w").append((i + 5) % 9).append("n").append(i % 5);
+            town.append("s").append(9 - i).append("y").append(1 + i % 3);
+        }
+        for (int i = 0; i < 4; i++) {
+            town.append(";ea").append(60 + i).append("f").append(4 - i).append("k").append(6 + i);
+        }
+        CountRule x = Check.county(town.toString());
+        for (int i = 0; i < 8; i++) {
+            due("16: kept " + i, x.keep(i, i, true), 2 * i + 1);
+            due("14: taught " + i, x.teach(i, (i + 5) % 9), 2 * i + 2);
+        }
+        // the oldest elder asks the last child tens 0 2 4 6, all of which it has right
+        for (int month = 0; month <= 5; month++) {
+            for (int i = 0; i < 8; i++) {
+                childOfEight(x, i, month);
+            }
+            for (int i = 0; i < 4; i++) {
+                int[] told = {60 + i, 4 - i, (1 << 6 + i - month / (4 - i)) - 1};
+                for (int what = 0; what < 3; what++) {
+                    due("7: elder " + i + ", " + what + " in month " + month, x.elder(i, what), told[what]);
+                }
+            }
+            due("8: the rule in month " + month, x.rule(0) * 100 + x.rule(1) * 10 + x.rule(2), 8083);
+            due("48: the month", x.count(5), month);
+            due("48: the ruler in month " + month, x.count(6), month == 0 ? NONE : 7);
+            due("48: the treasury in month " + month, x.count(7), month == 0 ? 0 : 30 + 80 * (month - 1));
+            due("48: acts", x.count(11), 16 + month);
+            x.months(1);
+        }
+    }
+
+    private static void childOfEight(CountRule x, int i, int month) {
+        int slow = 9 - i;
+        int ten = (i + 5) % 9;
+        boolean had = month >= slow;
+        int known = (2 << i) - 1 | (had ? 1 << ten : 0);
+        int[] told = {40 - i + month, known, had ? 0 : 1 << ten, i % 5, slow, 1 + i % 3, had ? NONE : ten,
+            had ? 0 : slow - month, 1 << i, i == 7 ? month : 0};
+        for (int what = 0; what < told.length; what++) {
+            due("6: child " + i + ", " + what + " in month " + month, kid(x, i, what), told[what]);
         }
     }
 

@@ -640,25 +640,39 @@ public final class EdgesOfTextsTest {
     }
 
     private static void truths() {
-        String[] says = {"1=2", "1=1"};
-        for (int a = 0; a < 2; a++) {
-            tax("y:!" + says[a] + "?1", 1 - a);
-            tax("y:!!" + says[a] + "?1", a);
-            tax("y:!(" + says[a] + ")?1", 1 - a);
-            for (int b = 0; b < 2; b++) {
-                tax("y:" + says[a] + "&" + says[b] + "?1", a & b);
-                tax("y:" + says[a] + "|" + says[b] + "?1", a | b);
-                tax("y:!" + says[a] + "&" + says[b] + "?1", 1 - a & b);
-                tax("y:!" + says[a] + "|" + says[b] + "?1", 1 - a | b);
-                tax("y:!(" + says[a] + "|" + says[b] + ")?1", 1 - (a | b));
-                for (int c = 0; c < 2; c++) {
-                    tax("y:" + says[a] + "|" + says[b] + "&" + says[c] + "?1", a | b & c);
-                    tax("y:" + says[a] + "&" + says[b] + "|" + says[c] + "?1", a & b | c);
-                    tax("y:(" + says[a] + "|" + says[b] + ")&" + says[c] + "?1", (a | b) & c);
-                    tax("y:" + says[a] + "&(" + says[b] + "|" + says[c] + ")?1", a & (b | c));
+        String[][] allSays = {{"1=2", "1=1"}, {"1<1", "1<2"}, {"1>1", "2>1"}, {"(1=2)", "(1=1)"}, {"!1=1", "!1=2"}};
+        for (String[] says : allSays) {
+            for (int a = 0; a < 2; a++) {
+                tax("y:" + says[a] + "?1", a);
+                tax("y:!" + says[a] + "?1", 1 - a);
+                tax("y:!!" + says[a] + "?1", a);
+                tax("y:!(" + says[a] + ")?1", 1 - a);
+                for (int b = 0; b < 2; b++) {
+                    truthsOfTwo(says[a], a, says[b], b);
+                    truthsOfTwo(says[a], a, allSays[0][b], b);
+                    truthsOfThree(says[a], a, allSays[0][b], b, says[0], 0);
+                    truthsOfThree(says[a], a, allSays[0][b], b, says[1], 1);
                 }
             }
         }
+    }
+
+    private static void truthsOfTwo(String first, int a, String second, int b) {
+        tax("y:" + first + "&" + second + "?1", a & b);
+        tax("y:" + first + "|" + second + "?1", a | b);
+        tax("y:!" + first + "&" + second + "?1", 1 - a & b);
+        tax("y:!" + first + "|" + second + "?1", 1 - a | b);
+        tax("y:" + first + "&!" + second + "?1", a & 1 - b);
+        tax("y:" + first + "|!" + second + "?1", a | 1 - b);
+        tax("y:!(" + first + "&" + second + ")?1", 1 - (a & b));
+        tax("y:!(" + first + "|" + second + ")?1", 1 - (a | b));
+    }
+
+    private static void truthsOfThree(String first, int a, String second, int b, String third, int c) {
+        tax("y:" + first + "|" + second + "&" + third + "?1", a | b & c);
+        tax("y:" + first + "&" + second + "|" + third + "?1", a & b | c);
+        tax("y:(" + first + "|" + second + ")&" + third + "?1", (a | b) & c);
+        tax("y:" + first + "&(" + second + "|" + third + ")?1", a & (b | c));
     }
 
     private static void theFirstClauseThatHolds() {
