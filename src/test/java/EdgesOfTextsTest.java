@@ -28,6 +28,7 @@ public final class EdgesOfTextsTest {
         blanksStandBetweenSigns();
         numbersOfLaws();
         sixWithinOneAnother();
+        sixThatAllWait();
         longTexts();
         textTakesTheCounty();
         textTakesFourLaws();
@@ -467,6 +468,18 @@ public final class EdgesOfTextsTest {
         fault("a unit's ! ends with the unit", LAW, "y:!!!!!!c=1&[c]=1&(!c=1)?1", NONE);
         fault("closed ones do not count", LAW, "y:((((((c=1)))))&[[[[[c]]]]]=1)?1", NONE);
         fault("closed ones do not count, the seventh does", LAW, "y:((((((c=1)))))&[[[[[[c", 22);
+    }
+
+    /** Each depth leaves as much unfinished as it can: what is reckoned deepest must still be right. */
+    private static void sixThatAllWait() {
+        for (int round = 0; round <= 6; round++) {
+            String ahead = "y:" + "1=2|1=1&(".repeat(round) + "1=2|1=1&";
+            String behind = ")".repeat(round) + "?7;y:8";
+            String inner = "[0+1*".repeat(6 - round) + "3" + "]".repeat(6 - round);
+            tax(ahead + "7=4+1*" + inner + behind, 7);
+            tax(ahead + "6=4+1*" + inner + behind, 8);
+            tax(ahead + "4+1*" + inner + "=7" + behind, 7);
+        }
     }
 
     private static void longTexts() {
